@@ -88,18 +88,7 @@ public final class LifeLinks {
       return UNKNOWN;
     }
     settle();
-    Entry row = register.rows[entry];
-    switch (what) {
-      case 0: return row.kind;
-      case 1: return row.year;
-      case 2: return row.age;
-      case 3: return row.length;
-      case 4: return row.bornFirst;
-      case 5: return row.bornLast;
-      case 6: return lives.lifeOf[entry];
-      case 7: return lives.lifeOf[entry] == NONE ? 1 : 0;
-      default: return OUTSIDE;
-    }
+    return tellEntry(entry, what);
   }
 
   public int sign(int entry, int place) {
@@ -179,16 +168,7 @@ public final class LifeLinks {
       return UNKNOWN;
     }
     settle();
-    Entry row = register.rows[one];
-    Entry next = register.rows[other];
-    switch (what) {
-      case 0: return row.distanceTo(next);
-      case 1: return row.likenessTo(next);
-      case 2: return pairs.why[one][other];
-      case 3: return pairs.worth[one][other];
-      case 4: return row.yearsWith(next);
-      default: return OUTSIDE;
-    }
+    return tellTwo(one, other, what);
   }
 
   public int fits(int entry) {
@@ -196,13 +176,7 @@ public final class LifeLinks {
       return UNKNOWN;
     }
     settle();
-    int fitting = 0;
-    for (int other = 0; other < register.size; other++) {
-      if (pairs.fit(entry, other)) {
-        fitting++;
-      }
-    }
-    return fitting;
+    return pairs.countFitting(entry);
   }
 
   public int nearest(int entry) {
@@ -210,53 +184,24 @@ public final class LifeLinks {
       return UNKNOWN;
     }
     settle();
-    int best = NONE;
-    for (int other = 0; other < register.size; other++) {
-      if (pairs.fit(entry, other)
-          && (best == NONE || pairs.worth[entry][other] > pairs.worth[entry][best])) {
-        best = other;
-      }
-    }
-    return best;
+    return pairs.bestFor(entry);
   }
 
   // ---- lives
 
   public int lives(int what) {
     settle();
-    switch (what) {
-      case 0: return lives.size;
-      case 1: return match.pairs;
-      case 2: return match.worth;
-      case 3: return lives.doubtful;
-      case 4: return lives.countShaky();
-      case 5: return lives.countSingle();
-      default: return OUTSIDE;
-    }
+    return tellLives(what);
   }
 
   public int life(int life, int what) {
     settle();
-    if (life < 0 || life >= lives.size) {
-      return UNKNOWN;
-    }
-    Life told = lives.all[life];
-    switch (what) {
-      case 0: return told.birth;
-      case 1: return told.burial;
-      case 2: return told.weddings();
-      case 3: return told.isBorn() ? told.bornFirst : NONE;
-      case 4: return told.isBorn() ? told.bornLast : NONE;
-      case 5: return told.shaky ? 1 : 0;
-      case 6: return told.size;
-      case 7: return told.lastYear;
-      default: return OUTSIDE;
-    }
+    return lives.has(life) ? tellLife(lives.all[life], what) : UNKNOWN;
   }
 
   public int wedding(int life, int place) {
     settle();
-    if (life < 0 || life >= lives.size) {
+    if (!lives.has(life)) {
       return UNKNOWN;
     }
     Life told = lives.all[life];
@@ -268,7 +213,7 @@ public final class LifeLinks {
       return UNKNOWN;
     }
     settle();
-    if (life < 0 || life >= lives.byMatch) {
+    if (!lives.has(life) || life >= lives.byMatch) {
       return UNKNOWN;
     }
     Life at = lives.all[life];
@@ -301,6 +246,7 @@ public final class LifeLinks {
   }
 
   public long digest() {
+    settle();
     long h = mixEntries(DIGEST_START);
     h = mixTwos(h);
     h = mixLives(h);
@@ -350,6 +296,60 @@ public final class LifeLinks {
     stale = false;
   }
 
+  private int tellEntry(int number, int what) {
+    Entry row = register.rows[number];
+    switch (what) {
+      case 0: return row.kind;
+      case 1: return row.year;
+      case 2: return row.age;
+      case 3: return row.length;
+      case 4: return row.bornFirst;
+      case 5: return row.bornLast;
+      case 6: return lives.lifeOf[number];
+      case 7: return lives.lifeOf[number] == NONE ? 1 : 0;
+      default: return OUTSIDE;
+    }
+  }
+
+  private int tellTwo(int one, int other, int what) {
+    Entry row = register.rows[one];
+    Entry next = register.rows[other];
+    switch (what) {
+      case 0: return row.distanceTo(next);
+      case 1: return row.likenessTo(next);
+      case 2: return pairs.why[one][other];
+      case 3: return pairs.worth[one][other];
+      case 4: return row.yearsWith(next);
+      default: return OUTSIDE;
+    }
+  }
+
+  private int tellLives(int what) {
+    switch (what) {
+      case 0: return lives.size;
+      case 1: return match.pairs;
+      case 2: return match.worth;
+      case 3: return lives.doubtful;
+      case 4: return lives.countShaky();
+      case 5: return lives.countSingle();
+      default: return OUTSIDE;
+    }
+  }
+
+  private static int tellLife(Life told, int what) {
+    switch (what) {
+      case 0: return told.birth;
+      case 1: return told.burial;
+      case 2: return told.weddings();
+      case 3: return told.isBorn() ? told.bornFirst : NONE;
+      case 4: return told.isBorn() ? told.bornLast : NONE;
+      case 5: return told.shaky ? 1 : 0;
+      case 6: return told.size;
+      case 7: return told.lastYear;
+      default: return OUTSIDE;
+    }
+  }
+
   private static long mixed(long h, long number) {
     return 31 * h + number;
   }
@@ -358,14 +358,14 @@ public final class LifeLinks {
     long h = start;
     for (int entry = 0; entry < register.size; entry++) {
       for (int what = 0; what <= 7; what++) {
-        h = mixed(h, entry(entry, what));
+        h = mixed(h, tellEntry(entry, what));
       }
       Entry row = register.rows[entry];
       for (int place = 0; place < row.length; place++) {
         h = mixed(h, row.name[place]);
       }
-      h = mixed(h, fits(entry));
-      h = mixed(h, nearest(entry));
+      h = mixed(h, pairs.countFitting(entry));
+      h = mixed(h, pairs.bestFor(entry));
     }
     return h;
   }
@@ -375,7 +375,7 @@ public final class LifeLinks {
     for (int one = 0; one < register.size; one++) {
       for (int other = one + 1; other < register.size; other++) {
         for (int what = 0; what <= 4; what++) {
-          h = mixed(h, two(one, other, what));
+          h = mixed(h, tellTwo(one, other, what));
         }
       }
     }
@@ -385,13 +385,13 @@ public final class LifeLinks {
   private long mixLives(long start) {
     long h = start;
     for (int what = 0; what <= 5; what++) {
-      h = mixed(h, lives(what));
+      h = mixed(h, tellLives(what));
     }
     for (int life = 0; life < lives.size; life++) {
-      for (int what = 0; what <= 7; what++) {
-        h = mixed(h, life(life, what));
-      }
       Life told = lives.all[life];
+      for (int what = 0; what <= 7; what++) {
+        h = mixed(h, tellLife(told, what));
+      }
       for (int place = told.heads; place < told.size; place++) {
         h = mixed(h, told.members[place]);
       }
@@ -745,9 +745,11 @@ public final class LifeLinks {
 
     final int[][] why = new int[MOST_ENTRIES][MOST_ENTRIES];
     final int[][] worth = new int[MOST_ENTRIES][MOST_ENTRIES];
+    private int size;
 
     void settle(Register register, int least) {
-      for (int one = 0; one < register.size; one++) {
+      size = register.size;
+      for (int one = 0; one < size; one++) {
         // Nobody fits itself.
         worth[one][one] = NONE;
         for (int other = 0; other < one; other++) {
@@ -758,6 +760,25 @@ public final class LifeLinks {
 
     boolean fit(int one, int other) {
       return worth[one][other] != NONE;
+    }
+
+    int countFitting(int entry) {
+      int fitting = 0;
+      for (int other = 0; other < size; other++) {
+        fitting += fit(entry, other) ? 1 : 0;
+      }
+      return fitting;
+    }
+
+    /** The one that fits an entry and is worth most with it, or NONE. */
+    int bestFor(int entry) {
+      int best = NONE;
+      for (int other = 0; other < size; other++) {
+        if (fit(entry, other) && (best == NONE || worth[entry][other] > worth[entry][best])) {
+          best = other;
+        }
+      }
+      return best;
     }
 
     /** Whether an entry fits each of the first ones of a row. */
@@ -972,6 +993,10 @@ public final class LifeLinks {
       }
     }
 
+    boolean has(int life) {
+      return life >= 0 && life < size;
+    }
+
     int countShaky() {
       int shaky = 0;
       for (int life = 0; life < size; life++) {
@@ -991,7 +1016,8 @@ public final class LifeLinks {
     private void openByMatch(Register register, Match match) {
       for (int number = 0; number < register.size; number++) {
         if (register.rows[number].kind == BIRTH) {
-          int life = open(number, register);
+          int life = open();
+          add(number, life, register);
           int burial = match.mates[number];
           if (burial != NONE) {
             add(burial, life, register);
@@ -1000,23 +1026,22 @@ public final class LifeLinks {
       }
       for (int number = 0; number < register.size; number++) {
         if (register.rows[number].kind == BURIAL && match.mates[number] == NONE) {
-          open(number, register);
+          add(number, open(), register);
         }
       }
     }
 
-    private int open(int number, Register register) {
-      int life = size;
-      if (life < MOST_ENTRIES) {
+    /** A new life behind all others; it is empty. */
+    private int open() {
+      if (size < MOST_ENTRIES) {
+        all[size].clear();
         size++;
-        all[life].clear();
-        add(number, life, register);
       }
-      return life;
+      return size - 1;
     }
 
     private void add(int number, int life, Register register) {
-      if (life < size) {
+      if (has(life)) {
         all[life].add(number, register.rows[number]);
         lifeOf[number] = life;
       }
@@ -1048,7 +1073,7 @@ public final class LifeLinks {
         }
       }
       if (best == NONE) {
-        open(number, register);
+        add(number, open(), register);
       } else if (hasRival(best, doubt)) {
         lifeOf[number] = NONE;
         doubtful++;

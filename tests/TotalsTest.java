@@ -1,0 +1,99 @@
+/** Promises 21 and 22: count and digest. */
+public final class TotalsTest {
+  private static final int OUTSIDE = LifeLinks.OUTSIDE;
+
+  public static void main(String[] args) {
+    promise21Count();
+    promise21CountOfRefusals();
+    promise22Digest();
+    promise22DigestByHand();
+    promise22DigestChangesNothing();
+    Check.end();
+  }
+
+  private static void count(LifeLinks x, int... wants) {
+    for (int what = 0; what < wants.length; what++) {
+      Check.due("count(" + what + ")", x.count(what), wants[what]);
+    }
+  }
+
+  private static void promise21Count() {
+    LifeLinks x = new LifeLinks();
+    count(x, 0, 0, 0, 0, 0, 0, 0, 0);
+    Check.enter(x, "banna:1700;danna:1770;wanna:1720;dotto:1800");
+    count(x, 4, 1, 1, 2, 0, 1, 0, 0);
+    Check.type(x, "bx");
+    count(x, 4, 1, 1, 2, 2, 1, 0, 0);
+    x.part(0, 1);
+    x.part(2, 1);
+    count(x, 4, 1, 1, 2, 2, 1, 0, 2);
+    x.strike(1);
+    count(x, 3, 1, 1, 1, 2, 1, 1, 0);
+    x.blank();
+    Check.enter(x, "banna:1700");
+    count(x, 4, 2, 1, 1, 0, 2, 1, 0);
+    x.strike(0);
+    x.strike(0);
+    count(x, 2, 1, 0, 1, 0, 2, 3, 0);
+    int[] outside = {-1, 8, 9, Integer.MIN_VALUE, Integer.MAX_VALUE};
+    for (int what : outside) {
+      Check.due("count(" + what + ")", x.count(what), OUTSIDE);
+    }
+  }
+
+  private static void promise21CountOfRefusals() {
+    LifeLinks x = Check.made("banna:1700;danna:1770");
+    x.strike(2);
+    x.part(0, 0);
+    x.part(0, 2);
+    x.enter();
+    Check.type(x, "w");
+    x.enter();
+    x.fault();
+    count(x, 2, 1, 0, 1, 1, 1, 0, 0);
+  }
+
+  private static void promise22Digest() {
+    LifeLinks x = Check.made("banna:1700;wana:1722.21;dhana:1760.59");
+    Check.due("digest()", x.digest(), Check.digestByCalls(x, ""));
+    Check.enter(x, "danne:1761.60;banna:1701");
+    Check.due("digest()", x.digest(), Check.digestByCalls(x, ""));
+    Check.type(x, "wanna:1720 ~");
+    Check.due("digest()", x.digest(), Check.digestByCalls(x, "wanna:1720 ~"));
+    x.part(0, 1);
+    Check.due("digest()", x.digest(), Check.digestByCalls(x, "wanna:1720 ~"));
+    x.strike(2);
+    Check.due("digest()", x.digest(), Check.digestByCalls(x, "wanna:1720 ~"));
+    x.bound(2, 500);
+    x.bound(0, 0);
+    Check.due("digest()", x.digest(), Check.digestByCalls(x, "wanna:1720 ~"));
+  }
+
+  private static void promise22DigestByHand() {
+    LifeLinks x = Check.made("ba:1700;dc:1750.50");
+    long[] numbers = {
+        0, 1700, -1, 1, 1700, 1700, 0, 0, 'a', 0, -1,
+        2, 1750, 50, 1, 1698, 1701, 1, 0, 'c', 0, -1,
+        2, 0, 6, -1, 1,
+        2, 0, 0, 0, 0, 2,
+        0, -1, 0, 1700, 1700, 0, 1, 1700,
+        -1, 1, 0, 1698, 1701, 0, 1, 1750,
+        'w',
+        2, 1, 0, 1, 1, 1, 0, 0};
+    long h = 1567;
+    for (long number : numbers) {
+      h = 31 * h + number;
+    }
+    x.letter('w');
+    Check.due("digest()", x.digest(), h);
+  }
+
+  private static void promise22DigestChangesNothing() {
+    LifeLinks x = Check.made("banna:1700;wana:1722.21;dhana:1760.59");
+    Check.type(x, "w");
+    long first = x.digest();
+    Check.due("digest() again", x.digest(), first);
+    Check.due("letter", x.letter('x'), 2);
+    Check.holds("another page, another digest", x.digest() != first);
+  }
+}
