@@ -7,6 +7,7 @@ public final class LivesTest {
 
   public static void main(String[] args) {
     promise16Lives();
+    promise16LivesOfEighteen();
     promise16LivesShaky();
     promise16LivesShakyByItsBirth();
     promise16LivesShakyBelowNothing();
@@ -18,6 +19,7 @@ public final class LivesTest {
     promise18WeddingFewerThanThree();
     promise18WeddingFitsAll();
     promise18WeddingsOfTheirOwn();
+    promise18WeddingWorthOfItsBirthAlone();
     promise18WeddingDoubtful();
     promise18WeddingDoubtCountsEachLife();
     promise19Worth();
@@ -65,6 +67,23 @@ public final class LivesTest {
       Check.due("lives(" + far + ")", x.lives(far), OUTSIDE);
     }
     Check.due("lives(6)", x.lives(6), OUTSIDE);
+  }
+
+  private static void promise16LivesOfEighteen() {
+    LifeLinks x = Check.made("ba:1700;bb:1700;bc:1700;bd:1700;be:1700;bf:1700;bg:1700",
+        "dh:1750;di:1750;dj:1750;dk:1750;dl:1750;dm:1750;dn:1750",
+        "wo:1720;wp:1720;wq:1720;wr:1720");
+    x.bound(0, 1000);
+    lives(x, 18, 0, 0, 0, 0, 18);
+    life(x, 0, 0, NONE, 0, 1700, 1700, 0, 1, 1700);
+    life(x, 7, NONE, 7, 0, 1650, 1750, 0, 1, 1750);
+    life(x, 17, NONE, NONE, 1, 1660, 1706, 0, 1, 1720);
+    Check.due("life(18, 0)", x.life(18, 0), UNKNOWN);
+    Check.due("wedding(17, 0)", x.wedding(17, 0), 17);
+    Check.due("entry(17, 6)", x.entry(17, 6), 17);
+    Check.due("worth(17, 13)", x.worth(17, 13), NONE);
+    Check.due("worth(17, 14)", x.worth(17, 14), UNKNOWN);
+    Check.due("digest()", x.digest(), Check.digestByCalls(x, ""));
   }
 
   private static void promise16LivesShaky() {
@@ -213,6 +232,15 @@ public final class LivesTest {
     Check.due("DOUBT 250: entry(2, 7)", x.entry(2, 7), 1);
     Check.due("DOUBT 250: entry(3, 7)", x.entry(3, 7), 1);
     lives(x, 2, 0, 0, 2, 0, 2);
+  }
+
+  private static void promise18WeddingWorthOfItsBirthAlone() {
+    // With the wedding that is there already, the first life would be worth less: 977.
+    LifeLinks x = Check.made("banna:1700;banne:1701;wana:1720;wanna:1721");
+    weddings(x, 0, 2, 3);
+    weddings(x, 1);
+    x.bound(2, 125);
+    Check.due("1200 and 1075, DOUBT 125", x.entry(3, 7), 1);
   }
 
   private static void promise18WeddingDoubtful() {
