@@ -1,3 +1,5 @@
+import java.util.List;
+
 /** What every test of the project uses: it compares answers, writes texts, and tells how it ended. */
 final class Check {
   private static int wrong = 0;
@@ -27,11 +29,12 @@ final class Check {
     System.out.println(compared + " answers are as due");
   }
 
-  /** Writes a text on THE PAGE. */
+  /** Writes a text on THE PAGE. An object has 512 calls: there is one for each letter, and one more. */
   static void type(LifeLinks x, String text) {
+    int letters = x.count(4);
     for (int k = 0; k < text.length(); k++) {
-      int before = x.count(4);
-      due("letter of " + text + " at " + k, x.letter(text.charAt(k)), before + 1);
+      letters++;
+      due("letter of " + text + " at " + k, x.letter(text.charAt(k)), letters);
     }
   }
 
@@ -51,41 +54,14 @@ final class Check {
 
   /** The digest of an object, worked out from what its other calls answer. */
   static long digestByCalls(LifeLinks x, String page) {
+    return folded(new Asked(() -> x).numbers(page));
+  }
+
+  /** What digest() makes of these numbers. */
+  static long folded(List<Long> numbers) {
     long h = 1567;
-    int entries = x.count(0);
-    for (int e = 0; e < entries; e++) {
-      for (int what = 0; what <= 7; what++) {
-        h = 31 * h + x.entry(e, what);
-      }
-      for (int place = 0; place < x.entry(e, 3); place++) {
-        h = 31 * h + x.sign(e, place);
-      }
-      h = 31 * h + x.fits(e);
-      h = 31 * h + x.nearest(e);
-    }
-    for (int one = 0; one < entries; one++) {
-      for (int other = one + 1; other < entries; other++) {
-        for (int what = 0; what <= 4; what++) {
-          h = 31 * h + x.two(one, other, what);
-        }
-      }
-    }
-    for (int what = 0; what <= 5; what++) {
-      h = 31 * h + x.lives(what);
-    }
-    for (int life = 0; life < x.lives(0); life++) {
-      for (int what = 0; what <= 7; what++) {
-        h = 31 * h + x.life(life, what);
-      }
-      for (int place = 0; place < x.life(life, 2); place++) {
-        h = 31 * h + x.wedding(life, place);
-      }
-    }
-    for (int place = 0; place < page.length(); place++) {
-      h = 31 * h + page.charAt(place);
-    }
-    for (int what = 0; what <= 7; what++) {
-      h = 31 * h + x.count(what);
+    for (long number : numbers) {
+      h = 31 * h + number;
     }
     return h;
   }
