@@ -75,6 +75,7 @@ public final class EdgesEntriesTest {
     promise10WeddingBounds();
     promise10BurialBounds();
     promise10NoneAndZeroAreUnlike();
+    promise10EachAge();
   }
 
   private static void promise11() {
@@ -95,6 +96,7 @@ public final class EdgesEntriesTest {
     promise12OutsideDoubt();
     promise12OutsideBoth();
     promise12WhichItWas();
+    promise12EachValue();
     promise12LeastZero();
     promise12LeastThousand();
     promise12SlackZero();
@@ -556,6 +558,20 @@ public final class EdgesEntriesTest {
     Check.due("mate(0), the other one at none", x.mate(0), 1);
   }
 
+  /** "(as for its KIND; a BIRTH NONE alone)": each AGE, and those just outside. */
+  private static void promise10EachAge() {
+    int[] least = {100, 14, 0};
+    for (int age = -3; age <= 102; age++) {
+      LifeLinks x = three();
+      int[] had = {NONE, 21, NONE};
+      for (int kind = 0; kind < 3; kind++) {
+        boolean good = age == NONE || age >= least[kind] && age <= 99;
+        Check.due("age(" + kind + ", " + age + ")", x.age(kind, age), good ? had[kind] : OUTSIDE);
+        Check.due("entry(" + kind + ", 2)", x.entry(kind, 2), good ? age : had[kind]);
+      }
+    }
+  }
+
   // ---- promise 11
 
   /** "UNKNOWN: one". */
@@ -695,6 +711,22 @@ public final class EdgesEntriesTest {
     for (int what = 0; what < 3; what++) {
       Check.due("bound(" + what + ", 2)", x.bound(what, 2), 0);
       Check.due("bound(" + what + ", 2) again", x.bound(what, 2), 2);
+    }
+  }
+
+  /** "LEAST (0 to 1000)", "SLACK (0 to 5)", "DOUBT (0 to 500)": each value, and those outside. */
+  private static void promise12EachValue() {
+    int[] first = {600, 1, 40};
+    int[] most = {1000, 5, 500};
+    for (int what = -2; what <= 4; what++) {
+      for (int v = -2; v <= 1002; v++) {
+        LifeLinks x = new LifeLinks();
+        boolean good = what >= 0 && what <= 2 && v >= 0 && v <= most[what];
+        Check.due("bound(" + what + ", " + v + ")", x.bound(what, v), good ? first[what] : OUTSIDE);
+        if (what >= 0 && what <= 2) {
+          Check.due("bound(" + what + ", 0)", x.bound(what, 0), good ? v : first[what]);
+        }
+      }
     }
   }
 

@@ -41,8 +41,10 @@ public final class EdgesLivesTest {
     promise16ShakyByOneOfAnotherPair();
     promise16NotShakyAlone();
     promise16NotShakyByOneThatDoesNotFit();
+    promise16NotShakyOfLittleWorth();
     promise16NotShakyWithoutBoth();
     promise16NotShakyByAWedding();
+    promise16NotShakyByOneStruckOut();
     promise16NotShakyAnyMore();
   }
 
@@ -86,6 +88,7 @@ public final class EdgesLivesTest {
     promise18OfSeveralAsMuch();
     promise18RivalAheadAndBehind();
     promise18OneThatItCannotGoToIsNoRival();
+    promise18NoRivalOfLittleWorth();
     promise18DoubtfulIsInNoLife();
     promise18DoubtfulIsNotOneOfThree();
     promise18LifeOfItsOwnIsARival();
@@ -318,6 +321,17 @@ public final class EdgesLivesTest {
     shaky(x, 0, 500, 0);
   }
 
+  /** "another BURIAL FITS that BIRTH": one that does not is no other, however little the own WORTH is. */
+  private static void promise16NotShakyOfLittleWorth() {
+    LifeLinks x = Check.made("ba:1700;dh:1750;dh:1751");
+    x.bound(0, 0);
+    Check.due("lives(2)", x.lives(2), 200);
+    x.part(0, 2);
+    shaky(x, 0, 500, 0);
+    x.part(0, 2);
+    shaky(x, 0, 500, 1);
+  }
+
   /** "if it has a BIRTH and a BURIAL". */
   private static void promise16NotShakyWithoutBoth() {
     LifeLinks x = Check.made("bpit:1700;bpit:1701;dpit:1750");
@@ -335,6 +349,22 @@ public final class EdgesLivesTest {
     LifeLinks x = Check.made("bpit:1700;dpit:1750;wpit:1720;wpit:1721");
     shaky(x, 0, 500, 0);
     weddings(x, 0, 2, 3);
+  }
+
+  /** "another BURIAL FITS that BIRTH, or another BIRTH that BURIAL": one that was struck out does not. */
+  private static void promise16NotShakyByOneStruckOut() {
+    LifeLinks x = Check.made("bpit:1700;dpit:1750;dpit:1751");
+    Check.due("lives(4)", x.lives(4), 1);
+    x.strike(2);
+    Check.due("lives(4), the last burial struck out", x.lives(4), 0);
+    Check.enter(x, "bpit:1700");
+    Check.due("lives(4)", x.lives(4), 1);
+    x.strike(2);
+    Check.due("lives(4), the last birth struck out", x.lives(4), 0);
+    LifeLinks y = Check.made("dpit:1751;bpit:1700;dpit:1750");
+    Check.due("lives(4)", y.lives(4), 1);
+    y.strike(0);
+    Check.due("lives(4), the first burial struck out", y.lives(4), 0);
   }
 
   /** "A LIFE is SHAKY, if": a LIFE that takes the number of one that was is not. */
@@ -683,6 +713,24 @@ public final class EdgesLivesTest {
     goes(x, 2, 500, NONE);
     x.bound(0, 835);
     goes(x, 2, 500, 1);
+  }
+
+  /** "for another one to which it can go": however little the greatest WORTH is. */
+  private static void promise18NoRivalOfLittleWorth() {
+    LifeLinks x = Check.made("ba:1700;bh:1701;wl:1720");
+    x.bound(0, 0);
+    Check.due("worth(2, 0)", x.worth(2, 0), 200);
+    goes(x, 2, 500, NONE);
+    x.part(2, 0);
+    goes(x, 2, 500, 1);
+    x.part(2, 0);
+    x.part(2, 1);
+    goes(x, 2, 500, 0);
+    LifeLinks y = Check.made("dh:1700;wl:1700;dh:1699");
+    y.bound(0, 0);
+    Check.due("worth(1, 0)", y.worth(1, 0), 4);
+    Check.due("worth(1, 1)", y.worth(1, 1), NONE);
+    goes(y, 1, 500, 0);
   }
 
   /** "it is DOUBTFUL, and goes to none": it has no LIFE of its own, and none goes to it. */

@@ -41,6 +41,7 @@ public final class EdgesTextsTest {
     promise2OutsideAbove126();
     promise2OutsideFarOff();
     promise2EachCode();
+    promise2EachCodeOutside();
     promise2LetterSixty();
     promise2FullAboveSixty();
     promise2OutsideAheadOfFull();
@@ -200,6 +201,13 @@ public final class EdgesTextsTest {
       LifeLinks x = new LifeLinks();
       Check.type(x, text);
       Check.due("digest() with " + text, x.digest(), Check.digestByCalls(x, text));
+    }
+  }
+
+  /** "OUTSIDE: code (32 to 126)": each one on either side. */
+  private static void promise2EachCodeOutside() {
+    for (int code = -300; code <= 600; code++) {
+      oneLetter(code, code >= 32 && code <= 126 ? 1 : OUTSIDE);
     }
   }
 

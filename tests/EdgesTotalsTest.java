@@ -23,6 +23,7 @@ public final class EdgesTotalsTest {
     promise22OfANewObject();
     promise22OfOneOfEachKind();
     promise22OfTheFullest();
+    promise22OfTheLongestNames();
     promise22OfTheFullestChanged();
     promise22OfSixtyLetters();
     promise22Wrapping();
@@ -158,6 +159,20 @@ public final class EdgesTotalsTest {
     Supplier<LifeLinks> burials = () -> Check.made(Edges.SEVEN_BIRTHS.replace('b', 'd'),
         Edges.SEVEN_BIRTHS, "wabcdefgh:1720.20;whgfedcba:1721.99;wz:1722;wz:1899");
     digest("another full one", burials, "");
+  }
+
+  private static LifeLinks longest() {
+    return Check.made("babcdefgh:1700;babkdefgh:1701;bapcdefgh:1702;babctefgh:1703",
+        "babcdewgh:1704;babcdefgx:1705;babcdefgh:1706;dabcdefgh:1760",
+        "dabkdefgh:1761;dapcdefgh:1762;dabctefgh:1763;wabcdefgh:1720",
+        "wabkdefgh:1721;wapcdefgh:1722;wabctefgh:1723;wabcdewgh:1724",
+        "wabcdefgx:1725;wzzzzzzzz:1726");
+  }
+
+  /** "the letters of its NAME": eight of each of 18. */
+  private static void promise22OfTheLongestNames() {
+    digest("the longest names", EdgesTotalsTest::longest, "");
+    Check.due("numbers of ENTRIES", longest().count(0), 18);
   }
 
   private static LifeLinks changed() {

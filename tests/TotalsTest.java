@@ -53,20 +53,33 @@ public final class TotalsTest {
     count(x, 2, 1, 0, 1, 1, 1, 0, 0);
   }
 
-  private static void promise22Digest() {
+  private static LifeLinks changed(int changes) {
     LifeLinks x = Check.made("banna:1700;wana:1722.21;dhana:1760.59");
-    Check.due("digest()", x.digest(), Check.digestByCalls(x, ""));
-    Check.enter(x, "danne:1761.60;banna:1701");
-    Check.due("digest()", x.digest(), Check.digestByCalls(x, ""));
-    Check.type(x, "wanna:1720 ~");
-    Check.due("digest()", x.digest(), Check.digestByCalls(x, "wanna:1720 ~"));
-    x.part(0, 1);
-    Check.due("digest()", x.digest(), Check.digestByCalls(x, "wanna:1720 ~"));
-    x.strike(2);
-    Check.due("digest()", x.digest(), Check.digestByCalls(x, "wanna:1720 ~"));
-    x.bound(2, 500);
-    x.bound(0, 0);
-    Check.due("digest()", x.digest(), Check.digestByCalls(x, "wanna:1720 ~"));
+    if (changes > 0) {
+      Check.enter(x, "danne:1761.60;banna:1701");
+    }
+    if (changes > 1) {
+      Check.type(x, "wanna:1720 ~");
+    }
+    if (changes > 2) {
+      x.part(0, 1);
+    }
+    if (changes > 3) {
+      x.strike(2);
+    }
+    if (changes > 4) {
+      x.bound(2, 500);
+      x.bound(0, 0);
+    }
+    return x;
+  }
+
+  private static void promise22Digest() {
+    for (int changes = 0; changes <= 5; changes++) {
+      LifeLinks x = changed(changes);
+      String page = changes > 1 ? "wanna:1720 ~" : "";
+      Check.due("digest() behind " + changes, x.digest(), Check.digestByCalls(x, page));
+    }
   }
 
   private static void promise22DigestByHand() {
