@@ -243,39 +243,43 @@ public final class EdgesLivesTest {
   private static void promise16ShakyAtDoubtZero() {
     LifeLinks x = Check.made("bpit:1700;dpit:1750;dpit:1751");
     shaky(x, 0, 0, 1);
-    LifeLinks y = Check.made("babcdefgh:1700;dabcdefgh:1750;dabkdefgh:1750");
-    Check.due("two(0, 2, 3)", y.two(0, 2, 3), 1138);
+    LifeLinks y = Check.made("baaaaaaa:1700;dhhhaaaa:1750;dhheaaaah:1750");
+    y.bound(0, 563);
+    Check.due("two(0, 1, 3)", y.two(0, 1, 3), 572 + 200);
+    Check.due("two(0, 2, 3)", y.two(0, 2, 3), 563 + 200);
     shaky(y, 0, 0, 0);
-    shaky(y, 0, 61, 0);
-    shaky(y, 0, 62, 1);
+    shaky(y, 0, 8, 0);
+    shaky(y, 0, 9, 1);
   }
 
-  /** "40 at first": a difference of 36 and one of 42, of those that NAMES can have. */
+  /** "40 at first": a difference of 38 and one of 41, of those that NAMES can have the next to it. */
   private static void promise16ShakyAtFirstDoubt() {
-    LifeLinks x = Check.made("babcdefg:1700;debktefg:1750;debkdefgh:1750");
-    Check.due("two(0, 1, 3)", x.two(0, 1, 3), 786 + 200);
-    Check.due("two(0, 2, 3)", x.two(0, 2, 3), 750 + 200);
-    Check.due("36 is not above 40", x.lives(4), 1);
-    shaky(x, 0, 35, 0);
-    shaky(x, 0, 36, 1);
-    LifeLinks z = Check.made("bpit:1700;dbid:1750;dbitt:1750");
-    Check.due("two(0, 1, 3)", z.two(0, 1, 3), 667 + 200);
-    Check.due("two(0, 2, 3)", z.two(0, 2, 3), 625 + 200);
-    Check.due("42 is above 40", z.lives(4), 0);
-    shaky(z, 0, 41, 0);
-    shaky(z, 0, 42, 1);
+    LifeLinks x = Check.made("baaaaa:1700;deeeaahlr:1750;dhhhaa:1750");
+    x.bound(0, 400);
+    Check.due("two(0, 1, 3)", x.two(0, 1, 3), 438 + 200);
+    Check.due("two(0, 2, 3)", x.two(0, 2, 3), 400 + 200);
+    Check.due("38 is not above 40", x.lives(4), 1);
+    shaky(x, 0, 37, 0);
+    shaky(x, 0, 38, 1);
+    LifeLinks y = Check.made("banna:1700;denmo:1750;dennahl:1750");
+    y.bound(0, 584);
+    Check.due("two(0, 1, 3)", y.two(0, 1, 3), 625 + 200);
+    Check.due("two(0, 2, 3)", y.two(0, 2, 3), 584 + 200);
+    Check.due("41 is above 40", y.lives(4), 0);
+    shaky(y, 0, 40, 0);
+    shaky(y, 0, 41, 1);
   }
 
-  /** "DOUBT (0 to 500 ..)": at 500 a difference of 500, and one of 512, the next there is. */
+  /** "DOUBT (0 to 500 ..)": at 500 a difference of 500, and one of 509, the next there is. */
   private static void promise16ShakyAtGreatestDoubt() {
     LifeLinks x = Check.made("bab:1700;dab:1750;dah:1750");
     x.bound(0, 500);
     shaky(x, 0, 499, 0);
     shaky(x, 0, 500, 1);
-    LifeLinks y = Check.made("baaahh:1700;deeehh:1750;deeerrrrr:1750");
+    LifeLinks y = Check.made("baaaaaaa:1700;dhhhaaaa:1750;dehhhhhhh:1750");
     y.bound(0, 0);
-    Check.due("two(0, 1, 3)", y.two(0, 1, 3), 700 + 200);
-    Check.due("two(0, 2, 3)", y.two(0, 2, 3), 188 + 200);
+    Check.due("two(0, 1, 3)", y.two(0, 1, 3), 572 + 200);
+    Check.due("two(0, 2, 3)", y.two(0, 2, 3), 63 + 200);
     shaky(y, 0, 500, 0);
   }
 
