@@ -262,7 +262,10 @@ public final class EdgesTotalsTest {
 
   // ---- "An object is used for at most 512 calls after it has been made"
 
-  /** A run of just 512 calls, of each kind, beside the model. */
+  /**
+   * "An object is used for at most 512 calls after it has been made": a run of just 512 calls, of each
+   * kind, beside the model.
+   */
   private static void theDocument512CallsOfAll() {
     LifeLinks x = new LifeLinks();
     Model model = new Model();

@@ -19,6 +19,7 @@ public final class EntriesTest {
     promise10AgeTells();
     promise11Part();
     promise11PartTells();
+    promise11PartAndStrike();
     promise12Bound();
     promise12BoundTells();
     Check.end();
@@ -30,6 +31,10 @@ public final class EntriesTest {
     }
   }
 
+  /**
+   * "int entry(int entry, int what): Of an ENTRY: what = 0 KIND, 1 YEAR, 2 AGE (NONE), 3 how many
+   * letters its NAME has".
+   */
   private static void promise6Entry() {
     LifeLinks x = Check.made("banna:1700;wana:1722.21;dhanabel:1760;wotto:1800");
     told(x, 0, 0, 1700, NONE, 4, 1700, 1700, 0, 0);
@@ -38,6 +43,7 @@ public final class EntriesTest {
     told(x, 3, 1, 1800, NONE, 4, 1740, 1786, 2, 0);
   }
 
+  /** "3 how many letters its NAME has, 4 the first year BORN, 5 the last one". */
   private static void promise6EntryBorn() {
     LifeLinks x = Check.made("da:1600.0;da:1899.99;wa:1600.99;wa:1899.14;ba:1600");
     told(x, 0, 2, 1600, 0, 1, 1598, 1601);
@@ -56,6 +62,7 @@ public final class EntriesTest {
     told(x, 2, 1, 1600, NONE, 1, 1540, 1586);
   }
 
+  /** "6 its LIFE (NONE: it is DOUBTFUL), 7 whether it is DOUBTFUL (1, 0)." */
   private static void promise6EntryLife() {
     LifeLinks x = Check.made("banna:1700;wanna:1720;banna:1701;danna:1770.70");
     Check.due("bound(2, 75)", x.bound(2, 75), 40);
@@ -74,6 +81,7 @@ public final class EntriesTest {
     Check.due("not doubtful", x.entry(1, 7), 0);
   }
 
+  /** "UNKNOWN: entry; OUTSIDE: what." */
   private static void promise6EntryRefusals() {
     LifeLinks x = Check.made("banna:1700;wana:1722.21");
     for (int far : FAR) {
@@ -86,6 +94,10 @@ public final class EntriesTest {
     Check.due("entry(1, 8)", x.entry(1, 8), OUTSIDE);
   }
 
+  /**
+   * "int sign(int entry, int place): The code of a letter of the NAME of an ENTRY. UNKNOWN: entry,
+   * place (from 0)."
+   */
   private static void promise7Sign() {
     LifeLinks x = Check.made("bz:1700;wabcdefgh:1722.21");
     Check.due("sign(0, 0)", x.sign(0, 0), 'z');
@@ -101,6 +113,10 @@ public final class EntriesTest {
     }
   }
 
+  /**
+   * "int as(int entry, int kind): An ENTRY taken as one of a KIND: its YEAR; NONE: it is none such
+   * (a row of those does not take it). UNKNOWN: entry; OUTSIDE: kind (0 to 2)."
+   */
   private static void promise8As() {
     LifeLinks x = Check.made("ba:1701;wb:1722.21;dc:1763");
     int[] years = {1701, 1722, 1763};
@@ -120,6 +136,10 @@ public final class EntriesTest {
     Check.due("as(3, 0)", x.as(3, 0), UNKNOWN);
   }
 
+  /**
+   * "int strike(int entry): An ENTRY is struck out; those behind it have a number less by 1 each:
+   * how many are left. UNKNOWN: entry."
+   */
   private static void promise9Strike() {
     LifeLinks x = Check.made("ba:1701;wb:1722.21;dc:1763;bd:1780");
     Check.due("strike(1)", x.strike(1), 3);
@@ -146,6 +166,7 @@ public final class EntriesTest {
     Check.due("lives(0)", x.lives(0), 0);
   }
 
+  /** "An ENTRY is struck out": one that comes later has nothing of it. */
   private static void promise9StrikeFreesItsPlace() {
     LifeLinks x = Check.made("banna:1701;wjohan:1722.21;danna:1763");
     Check.due("two(0, 2, 0)", x.two(0, 2, 0), 0);
@@ -159,6 +180,7 @@ public final class EntriesTest {
     Check.due("sign(2, 2)", x.sign(2, 2), UNKNOWN);
   }
 
+  /** "(Who is struck out is PARTED from nobody any more.)" */
   private static void promise9StrikeAndParted() {
     LifeLinks x = Check.made("banna:1701;wanna:1722;danna:1763;danna:1764");
     Check.due("part(0, 1)", x.part(0, 1), 1);
@@ -177,6 +199,10 @@ public final class EntriesTest {
     Check.due("count(7)", x.count(7), 0);
   }
 
+  /**
+   * "int age(int entry, int age): An ENTRY has another AGE (NONE: none): which it had. UNKNOWN:
+   * entry; OUTSIDE: age (as for its KIND; a BIRTH NONE alone)."
+   */
   private static void promise10Age() {
     LifeLinks x = Check.made("ba:1701;wb:1722.21;dc:1763");
     Check.due("age(0, NONE)", x.age(0, NONE), NONE);
@@ -206,6 +232,7 @@ public final class EntriesTest {
     Check.due("age(3, NONE)", x.age(3, NONE), UNKNOWN);
   }
 
+  /** "An ENTRY has another AGE": BORN, and all that follows, is of that one. */
   private static void promise10AgeTells() {
     LifeLinks x = Check.made("banna:1700;danna:1760");
     Check.due("mate(0)", x.mate(0), 1);
@@ -217,6 +244,10 @@ public final class EntriesTest {
     Check.due("mate(0) behind age", x.mate(0), 1);
   }
 
+  /**
+   * "int part(int one, int other): Two ENTRIES are PARTED, or, if they are, not any more: 1, 0.
+   * UNKNOWN: one, other (two unlike ENTRIES)."
+   */
   private static void promise11Part() {
     LifeLinks x = Check.made("banna:1700;danna:1760;wanna:1730");
     Check.due("part(0, 1)", x.part(0, 1), 1);
@@ -238,6 +269,7 @@ public final class EntriesTest {
     Check.due("count(7) behind refusals", x.count(7), 1);
   }
 
+  /** "Two ENTRIES are PARTED, or, if they are, not any more": they do not FIT, and do again. */
   private static void promise11PartTells() {
     LifeLinks x = Check.made("banna:1700;danna:1760;bober:1760");
     Check.due("fits(0)", x.fits(0), 1);
@@ -252,6 +284,26 @@ public final class EntriesTest {
     Check.due("mate(0)", x.mate(0), 1);
   }
 
+  /** "(Who is struck out is PARTED from nobody any more.)": the others stay PARTED. */
+  private static void promise11PartAndStrike() {
+    LifeLinks x = Check.made("banna:1700;danna:1760;wanna:1730;wanna:1731");
+    Check.due("part(0, 2)", x.part(0, 2), 1);
+    Check.due("part(1, 2)", x.part(1, 2), 1);
+    Check.due("part(0, 3)", x.part(0, 3), 1);
+    Check.due("strike(2)", x.strike(2), 3);
+    Check.due("count(7)", x.count(7), 1);
+    Check.due("two(0, 2, 2)", x.two(0, 2, 2), 3);
+    Check.enter(x, "wanna:1730");
+    Check.due("part(0, 3): it was PARTED from nobody", x.part(0, 3), 1);
+    Check.due("part(3, 1): it was PARTED from nobody", x.part(3, 1), 1);
+    Check.due("part(2, 0): these two were", x.part(2, 0), 0);
+    Check.due("count(7)", x.count(7), 2);
+  }
+
+  /**
+   * "int bound(int what, int v): A bound is another one: what = 0 LEAST (0 to 1000), 1 SLACK (0 to
+   * 5), 2 DOUBT (0 to 500): which it was. OUTSIDE: what, v."
+   */
   private static void promise12Bound() {
     LifeLinks x = new LifeLinks();
     int[] first = {600, 1, 40};
@@ -273,6 +325,7 @@ public final class EntriesTest {
     Check.due("bound(3, 0)", x.bound(3, 0), OUTSIDE);
   }
 
+  /** "A bound is another one": LEAST is of LIKENESS, SLACK of BORN, DOUBT of WORTH. */
   private static void promise12BoundTells() {
     LifeLinks x = Check.made("bpit:1700;dbit:1750.52;wpit:1720.22");
     Check.due("LEAST 600", x.two(0, 2, 2), 5);

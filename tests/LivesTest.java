@@ -54,6 +54,11 @@ public final class LivesTest {
     Check.due("life(" + life + ", 2)", x.life(life, 2), wants.length);
   }
 
+  /**
+   * "int lives(int what): What = 0 how many LIVES, 1 how many pairs by MATCH, 2 their WORTH
+   * together, 3 how many WEDDINGS are DOUBTFUL, 4 how many LIVES are SHAKY, 5 how many LIVES have
+   * an only ENTRY. OUTSIDE."
+   */
   private static void promise16Lives() {
     LifeLinks x = Check.made("banna:1700;wana:1722.21;dhana:1760.59;dotto:1800", "wanna:1725");
     lives(x, 3, 0, 0, 0, 0, 2);
@@ -77,6 +82,7 @@ public final class LivesTest {
     return x;
   }
 
+  /** "What = 0 how many LIVES": as many as ENTRIES. */
   private static void promise16LivesOfEighteen() {
     LifeLinks x = eighteenLives();
     lives(x, 18, 0, 0, 0, 0, 18);
@@ -92,6 +98,7 @@ public final class LivesTest {
         Check.folded(new Asked(LivesTest::eighteenLives).numbers("")));
   }
 
+  /** "4 how many LIVES are SHAKY": by another BURIAL. */
   private static void promise16LivesShaky() {
     LifeLinks x = Check.made("bpit:1700;dpit:1750.50;dbit:1751.51");
     Check.due("two(0, 1, 3)", x.two(0, 1, 3), 1200);
@@ -107,6 +114,7 @@ public final class LivesTest {
     lives(x, 2, 1, 1200, 0, 0, 1);
   }
 
+  /** "4 how many LIVES are SHAKY": by another BIRTH. */
   private static void promise16LivesShakyByItsBirth() {
     LifeLinks x = Check.made("bbit:1700;bpit:1700;dpit:1750.50");
     x.bound(2, 165);
@@ -119,6 +127,7 @@ public final class LivesTest {
     lives(x, 2, 1, 1200, 0, 0, 1);
   }
 
+  /** "4 how many LIVES are SHAKY": by one that is worth more. */
   private static void promise16LivesShakyBelowNothing() {
     // The pair of most WORTH is not taken, so each life's own is less than another one.
     LifeLinks x = Check.made("banna:1700;bhanna:1700;danna:1750.50;dannas:1750.50");
@@ -129,6 +138,11 @@ public final class LivesTest {
     Check.due("mate(1)", x.mate(1), 2);
   }
 
+  /**
+   * "int life(int life, int what): Of a LIFE: what = 0 its BIRTH (NONE), 1 its BURIAL (NONE), 2 how
+   * many WEDDINGS, 3 the first year BORN (NONE), 4 the last one (NONE), 5 whether it is SHAKY (1,
+   * 0), 6 how many ENTRIES, 7 the YEAR of its last ENTRY by YEARS."
+   */
   private static void promise17Life() {
     LifeLinks x = Check.made("wana:1722.21;banna:1700;danna:1760.59;wanna:1740", "banne:1640");
     life(x, 0, 1, 2, 2, 1700, 1700, 0, 4, 1760);
@@ -144,6 +158,10 @@ public final class LivesTest {
     life(x, 0, NONE, NONE, 1, 1699, 1702, 0, 1, 1722);
   }
 
+  /**
+   * "3 the first year BORN (NONE), 4 the last one (NONE)": what a BURIAL and WEDDINGS have in
+   * common.
+   */
   private static void promise17LifeWithoutBirth() {
     LifeLinks x = Check.made("danna:1760.60;wanna:1725;wanna:1724.22");
     life(x, 0, NONE, 0, 2, 1700, 1701, 0, 3, 1760);
@@ -154,6 +172,7 @@ public final class LivesTest {
     life(x, 0, NONE, 0, 2, 1665, 1710, 0, 3, 1760);
   }
 
+  /** "LIVES are numbered from 0": BIRTHS, then BURIALS, then WEDDINGS of their own. */
   private static void promise17LifeOrder() {
     LifeLinks x = Check.made("dotto:1700;wulla:1790;danna:1760;bxy:1620;banna:1700");
     life(x, 0, 3, NONE, 0, 1620, 1620, 0, 1, 1620);
@@ -166,6 +185,7 @@ public final class LivesTest {
     }
   }
 
+  /** "UNKNOWN: life; OUTSIDE: what." */
   private static void promise17LifeRefusals() {
     LifeLinks x = Check.made("banna:1700;wober:1720");
     for (int far : FAR) {
@@ -179,6 +199,10 @@ public final class LivesTest {
     Check.due("life(1, 0)", x.life(1, 0), NONE);
   }
 
+  /**
+   * "int wedding(int life, int place): A WEDDING of a LIFE, in the order of numbers. UNKNOWN: life,
+   * place (from 0)."
+   */
   private static void promise18Wedding() {
     LifeLinks x = Check.made("wanna:1730;banna:1700;wanna:1720;danna:1770");
     weddings(x, 0, 0, 2);
@@ -193,6 +217,7 @@ public final class LivesTest {
     weddings(x, 0);
   }
 
+  /** "and there are fewer than three WEDDINGS". */
   private static void promise18WeddingFewerThanThree() {
     LifeLinks x = Check.made("wanna:1720;wanna:1721;wanna:1722;wanna:1723;banna:1700");
     lives(x, 2, 0, 0, 0, 0, 1);
@@ -208,6 +233,7 @@ public final class LivesTest {
     Check.due("of as much worth at two lives", x.entry(7, 7), 1);
   }
 
+  /** "it can go to a LIFE, if it FITS all ENTRIES that this has by now". */
   private static void promise18WeddingFitsAll() {
     LifeLinks x = Check.made("banna:1700;danna:1770;wanna:1720;wanna:1725;wanna:1800");
     weddings(x, 0, 2, 3);
@@ -221,6 +247,7 @@ public final class LivesTest {
     weddings(x, 1, 2);
   }
 
+  /** "if it has neither, of it and each WEDDING there". */
   private static void promise18WeddingsOfTheirOwn() {
     LifeLinks x = Check.made("wanna:1720.20;wana:1720.20;wanna:1721.21");
     Check.due("two(0, 1, 3)", x.two(0, 1, 3), 800);
@@ -240,6 +267,7 @@ public final class LivesTest {
     lives(x, 2, 0, 0, 2, 0, 2);
   }
 
+  /** "the WORTH of it and the BIRTH". */
   private static void promise18WeddingWorthOfItsBirthAlone() {
     // With the wedding that is there already, the first life would be worth less: 977.
     LifeLinks x = Check.made("banna:1700;banne:1701;wana:1720;wanna:1721");
@@ -249,6 +277,7 @@ public final class LivesTest {
     Check.due("1200 and 1075, DOUBT 125", x.entry(3, 7), 1);
   }
 
+  /** "if for another one to which it can go that greatest WORTH less its own is DOUBT or less". */
   private static void promise18WeddingDoubtful() {
     LifeLinks x = Check.made("bbit:1700;bpit:1701;wpit:1720");
     Check.due("two(0, 2, 3)", x.two(0, 2, 3), 1034);
@@ -268,6 +297,7 @@ public final class LivesTest {
     lives(y, 2, 0, 0, 1, 0, 2);
   }
 
+  /** "for another one to which it can go": any of them. */
   private static void promise18WeddingDoubtCountsEachLife() {
     // The rivals are worth 1034, 1034 and 867, the best one 1200.
     LifeLinks x = Check.made("bpit:1700;bbit:1701;bpid:1702;bbid:1703;wpit:1720");
@@ -286,6 +316,10 @@ public final class LivesTest {
     Check.due("lives(0)", x.lives(0), 4);
   }
 
+  /**
+   * "int worth(int entry, int life): WORTH of a WEDDING at a LIFE as LIVES are by MATCH; NONE: it
+   * does not FIT all ENTRIES of it."
+   */
   private static void promise19Worth() {
     LifeLinks x = Check.made("banna:1700;danna:1770.69;wana:1720;wotto:1720;banna:1640");
     Check.due("worth of the birth", x.two(0, 2, 3), 950);
@@ -306,6 +340,7 @@ public final class LivesTest {
     Check.due("1034 and 671, rounded down", y.worth(2, 0), 852);
   }
 
+  /** "as LIVES are by MATCH, without any WEDDINGS". */
   private static void promise19WorthWithoutWeddings() {
     LifeLinks x = Check.made("banna:1700;wanna:1720;wanna:1721;wanna:1722;wanna:1723");
     for (int wedding = 1; wedding <= 4; wedding++) {
@@ -321,6 +356,7 @@ public final class LivesTest {
     Check.due("entry(2, 7)", y.entry(2, 7), 1);
   }
 
+  /** "UNKNOWN: entry (a WEDDING), life (one with a BIRTH or a BURIAL)." */
   private static void promise19WorthRefusals() {
     LifeLinks x = Check.made("banna:1700;danna:1770;wanna:1720;wotto:1720");
     for (int far : FAR) {
@@ -334,6 +370,10 @@ public final class LivesTest {
     Check.due("worth(2, 0)", x.worth(2, 0), 1102);
   }
 
+  /**
+   * "int mate(int entry): The BURIAL that a BIRTH has by MATCH, or the BIRTH that a BURIAL has;
+   * NONE."
+   */
   private static void promise20Mate() {
     LifeLinks x = Check.made("danna:1770;banna:1700;bpit:1700;dpid:1760;botto:1700");
     int[] mates = {1, 0, 3, 2, NONE};
@@ -348,6 +388,7 @@ public final class LivesTest {
     Check.due("mate(0), the burial is struck out", x.mate(0), NONE);
   }
 
+  /** "so that their WORTH together is greatest". */
   private static void promise20MateTogetherWorthMost() {
     LifeLinks x = Check.made("banna:1700;bhanna:1700;danna:1750.50;dannas:1750.50");
     x.bound(0, 601);
@@ -360,6 +401,7 @@ public final class LivesTest {
     Check.due("lives(2)", x.lives(2), 1200);
   }
 
+  /** "of several that which .. has the BURIAL of the lesser number". */
   private static void promise20MateOfSeveral() {
     // 1000 and 600 are worth as much together as 800 and 800.
     LifeLinks x = Check.made("banna:1700;bhanna:1700;danna:1750.50;dannas:1750.50");
@@ -372,6 +414,7 @@ public final class LivesTest {
     Check.due("lives(2)", y.lives(2), 2000);
   }
 
+  /** "at the first BIRTH for which they are unlike". */
   private static void promise20MateFirstUnlikeBirth() {
     LifeLinks x = Check.made("danna:1750.50;banna:1700;banna:1700;banna:1701");
     Check.due("none counts as the greatest", x.mate(0), 1);
@@ -385,6 +428,7 @@ public final class LivesTest {
     Check.due("mate(2), parted", x.mate(2), 0);
   }
 
+  /** "of each KIND seven at most": seven pairs. */
   private static void promise20MateSeven() {
     LifeLinks x = Check.made("ba:1700;ba:1700;ba:1700;ba:1700;ba:1700;ba:1700;ba:1700",
         "da:1750;da:1750;da:1750;da:1750;da:1750;da:1750;da:1750");
@@ -403,6 +447,7 @@ public final class LivesTest {
     Check.due("lives(2)", x.lives(2), 8400);
   }
 
+  /** "UNKNOWN: entry (a BIRTH or BURIAL)." */
   private static void promise20MateRefusals() {
     LifeLinks x = Check.made("banna:1700;danna:1770;wanna:1720");
     for (int far : FAR) {

@@ -23,6 +23,7 @@ public final class TextsTest {
     Check.end();
   }
 
+  /** "LifeLinks(): No ENTRIES." */
   private static void promise1NewObject() {
     LifeLinks x = new LifeLinks();
     for (int what = 0; what <= 7; what++) {
@@ -42,6 +43,10 @@ public final class TextsTest {
     Check.due("new: digest()", x.digest(), h);
   }
 
+  /**
+   * "LEAST (0 to 1000, 600 at first)", "SLACK 0 to 5, 1 at first", "DOUBT .. (0 to 500, 40 at
+   * first)".
+   */
   private static void promise1Bounds() {
     LifeLinks x = new LifeLinks();
     Check.due("new: bound(0, 600)", x.bound(0, 600), 600);
@@ -54,6 +59,10 @@ public final class TextsTest {
     Check.due("other: count(0)", other.count(0), 0);
   }
 
+  /**
+   * "int letter(int code): A letter comes behind THE PAGE, by its code: how many THE PAGE has.
+   * OUTSIDE: code (32 to 126)".
+   */
   private static void promise2Letter() {
     LifeLinks x = new LifeLinks();
     int[] outside = {31, 127, 0, -1, 128, 10, Integer.MIN_VALUE, Integer.MAX_VALUE};
@@ -68,6 +77,7 @@ public final class TextsTest {
     Check.due("digest()", x.digest(), Check.digestByCalls(x, " ~A"));
   }
 
+  /** "OUTSIDE: code (32 to 126); FULL: above 60." */
   private static void promise2LetterFull() {
     LifeLinks x = new LifeLinks();
     for (int k = 1; k <= 60; k++) {
@@ -83,6 +93,7 @@ public final class TextsTest {
     Check.due("letter on the empty page", x.letter('b'), 1);
   }
 
+  /** "int blank(): THE PAGE is empty: how many letters it had." */
   private static void promise3Blank() {
     LifeLinks x = new LifeLinks();
     Check.due("blank() of none", x.blank(), 0);
@@ -104,6 +115,10 @@ public final class TextsTest {
     Check.due("count(4) behind fault() of " + text, x.count(4), text.length());
   }
 
+  /**
+   * "int fault(): The place (from 0) of the first letter of THE PAGE that no such text has there,
+   * behind those ahead of it; how many letters it has, if there is none."
+   */
   private static void promise4Fault() {
     fault("", 0);
     fault("a", 0);
@@ -170,6 +185,7 @@ public final class TextsTest {
     fault("da:1700/", 7);
   }
 
+  /** "(whatever ENTRIES there are)": where enter() has no room for them. */
   private static void promise4FaultWhateverEntries() {
     LifeLinks x = Check.made("ba:1700;ba:1700;ba:1700;ba:1700;ba:1700;ba:1700;ba:1700");
     Check.type(x, "ba:1700");
@@ -178,6 +194,9 @@ public final class TextsTest {
     fault("ba:1700;ba:1700;ba:1700;ba:1700;ba:1700;ba:1700;ba:1700;ba:1", 60);
   }
 
+  /**
+   * "the first letter of THE PAGE that no such text has there": whatever letters come behind it.
+   */
   private static void promise4FaultOfTextsThatAreNoEntries() {
     LifeLinks x = new LifeLinks();
     Check.type(x, "ba:1700;w");
@@ -190,6 +209,10 @@ public final class TextsTest {
     Check.due("the first one of several", x.fault(), 9);
   }
 
+  /**
+   * "int enter(): THE PAGE is read as ENTRIES, which come, in order: how many came; THE PAGE is
+   * empty then."
+   */
   private static void promise5Enter() {
     LifeLinks x = new LifeLinks();
     Check.type(x, "banna:1700;wabcdefgh:1899.14;dz:1600.0;dz:1601");
@@ -218,6 +241,7 @@ public final class TextsTest {
     Check.due("digest() behind enter() of " + text, x.digest(), before);
   }
 
+  /** "STATE: it is none". */
   private static void promise5EnterState() {
     String[] texts = {"", "b", "ba", "ba:", "ba:1", "ba:170", "ba:1700;", "ba:1700;w", "ba:1599",
         "ba:1900", "ba:1700.1", "wa:1700.", "wa:1700.1", "wa:1700.9", "wa:1700.13", "da:1700.",
@@ -240,6 +264,7 @@ public final class TextsTest {
     Check.due("blank() behind it", x.blank(), text.length());
   }
 
+  /** "FULL: there would be .. more than seven of a KIND." */
   private static void promise5EnterFullOfKind() {
     LifeLinks x = Check.made(SIX_BIRTHS);
     refusedFull(x, "ba:1706;ba:1707");
@@ -255,6 +280,7 @@ public final class TextsTest {
     refusedFull(y, "da:1707.3");
   }
 
+  /** "FULL: there would be more than 18". */
   private static void promise5EnterFullOfAll() {
     LifeLinks x = Check.made(SIX_BIRTHS, SIX_BIRTHS.replace('b', 'w'));
     Check.enter(x, "da:1700;da:1701;da:1702;da:1703;da:1704");
@@ -269,6 +295,7 @@ public final class TextsTest {
     Check.due("entry(17, 1)", x.entry(17, 1), 1706);
   }
 
+  /** "STATE: it is none; FULL: there would be more": in this order. */
   private static void promise5EnterOrderOfRefusals() {
     LifeLinks x = Check.made(SIX_BIRTHS, "ba:1706");
     Check.type(x, "ba:1707;");

@@ -17,6 +17,11 @@ public final class TotalsTest {
     }
   }
 
+  /**
+   * "int count(int what): How many: 0 ENTRIES, 1 BIRTHS, 2 WEDDINGS, 3 BURIALS, 4 letters of THE
+   * PAGE, 5 how often a text was read as ENTRIES, 6 how many were struck out, 7 how many two are
+   * PARTED. OUTSIDE."
+   */
   private static void promise21Count() {
     LifeLinks x = new LifeLinks();
     count(x, 0, 0, 0, 0, 0, 0, 0, 0);
@@ -41,6 +46,7 @@ public final class TotalsTest {
     }
   }
 
+  /** "they change nothing": what was refused is not counted. */
   private static void promise21CountOfRefusals() {
     LifeLinks x = Check.made("banna:1700;danna:1770");
     x.strike(2);
@@ -74,6 +80,7 @@ public final class TotalsTest {
     return x;
   }
 
+  /** "long digest()": beside what the other calls answer. */
   private static void promise22Digest() {
     for (int changes = 0; changes <= 5; changes++) {
       LifeLinks x = changed(changes);
@@ -82,6 +89,12 @@ public final class TotalsTest {
     }
   }
 
+  /**
+   * "h is 1567, then for each of these numbers, in order, 31 times h, and it (as longs, wrapping):
+   * of each ENTRY entry() for 0 to 7, the letters of its NAME, fits(), nearest(); of each two
+   * ENTRIES (the first one first) two() for 0 to 4; lives() for 0 to 5; of each LIFE life() for 0
+   * to 7, and its WEDDINGS; letters of THE PAGE, each by its code; what count() tells for 0 to 7."
+   */
   private static void promise22DigestByHand() {
     LifeLinks x = Check.made("ba:1700;dc:1750.50");
     long[] numbers = {
@@ -101,6 +114,7 @@ public final class TotalsTest {
     Check.due("digest()", x.digest(), h);
   }
 
+  /** "letters of THE PAGE, each by its code": another letter, another digest. */
   private static void promise22DigestChangesNothing() {
     LifeLinks x = Check.made("banna:1700;wana:1722.21;dhana:1760.59");
     Check.type(x, "w");

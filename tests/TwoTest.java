@@ -31,6 +31,10 @@ public final class TwoTest {
     return false;
   }
 
+  /**
+   * "int two(int one, int other, int what): Of two ENTRIES: what = 0 DISTANCE": of NAMES of one
+   * letter.
+   */
   private static void promise13DistanceOfLetters() {
     for (char one = 'a'; one <= 'z'; one++) {
       for (char other = 'a'; other <= 'z'; other++) {
@@ -50,6 +54,7 @@ public final class TwoTest {
     Check.due("LIKENESS the other way: " + both, x.two(1, 0, 1), likeness);
   }
 
+  /** "Of two ENTRIES: what = 0 DISTANCE, 1 LIKENESS". */
   private static void promise13DistanceOfNames() {
     names("anna", "anna", 0, 1000);
     names("anna", "ana", 2, 750);
@@ -67,6 +72,7 @@ public final class TwoTest {
     names("ab", "ba", 4, 0);
   }
 
+  /** "1 LIKENESS": as ints. */
   private static void promise13Likeness() {
     names("abc", "abd", 2, 667);
     names("abcdefg", "abcdeff", 2, 858);
@@ -83,6 +89,7 @@ public final class TwoTest {
     Check.due("NONE unless they FIT", x.two(0, 1, 3) == NONE ? 1 : 0, want == 0 ? 0 : 1);
   }
 
+  /** "1 LIKENESS, 2 WHY (0: they FIT), 3 WORTH (NONE: they do not FIT)". */
   private static void promise13Why() {
     why("banna:1700", "banna:1700", 1);
     why("danna:1700", "danna:1700", 2);
@@ -114,6 +121,7 @@ public final class TwoTest {
     why("babcde:1700", "wahffe:1720", 6);
   }
 
+  /** "the first one of these that holds". */
   private static void promise13WhyFirstOfSeveral() {
     LifeLinks x = Check.made("banna:1700;bober:1750;wober:1690;danna:1689;dober:1660");
     x.part(0, 1);
@@ -137,6 +145,7 @@ public final class TwoTest {
     Check.due("years the other way: " + one + ", " + other, x.two(1, 0, 4), want);
   }
 
+  /** "4 how many years are BORN of both." */
   private static void promise13Years() {
     years("ba:1700", "ba:1700", 1);
     years("ba:1700", "ba:1701", 0);
@@ -159,6 +168,7 @@ public final class TwoTest {
     Check.due("WORTH the other way: " + one + ", " + other, x.two(1, 0, 3), want);
   }
 
+  /** "3 WORTH (NONE: they do not FIT)". */
   private static void promise13Worth() {
     worth("banna:1700", "danna:1760", 1200);
     worth("banna:1700", "wana:1720", 950);
@@ -177,6 +187,7 @@ public final class TwoTest {
     Check.due("WORTH at LEAST 0", x.two(0, 1, 3), 4);
   }
 
+  /** "UNKNOWN: one, other (two unlike ENTRIES); OUTSIDE: what." */
   private static void promise13Refusals() {
     LifeLinks x = Check.made("banna:1700;danna:1760");
     for (int far : FAR) {
@@ -193,6 +204,7 @@ public final class TwoTest {
     Check.due("two(0, 1, -1)", x.two(0, 1, -1), OUTSIDE);
   }
 
+  /** "int fits(int entry): The number of other ENTRIES that FIT one. UNKNOWN: entry." */
   private static void promise14Fits() {
     LifeLinks x = Check.made("banna:1700;danna:1760;wana:1720;wober:1720;banne:1705");
     int[] wants = {2, 3, 3, 0, 2};
@@ -206,6 +218,10 @@ public final class TwoTest {
     Check.due("fits of one alone", Check.made("wa:1700").fits(0), 0);
   }
 
+  /**
+   * "int nearest(int entry): Of the others that FIT an ENTRY the one by which its WORTH is
+   * greatest; NONE: none FITS. UNKNOWN: entry."
+   */
   private static void promise15Nearest() {
     LifeLinks x = Check.made("banna:1700;danne:1760;wana:1720;wober:1720;wanna:1721");
     Check.due("nearest(0)", x.nearest(0), 4);
@@ -222,6 +238,7 @@ public final class TwoTest {
     Check.due("nearest of one alone", Check.made("wa:1700").nearest(0), NONE);
   }
 
+  /** "(of several the least number)". */
   private static void promise15NearestOfSeveral() {
     LifeLinks x = Check.made("wana:1719;wanna:1720;wanna:1721;banna:1700;banna:1699");
     Check.due("nearest(3)", x.nearest(3), 1);
