@@ -48,6 +48,7 @@ public final class ReadmeTest {
     test.eachTestIsListed();
     test.eachConstantIsRight();
     test.eachRegisterTakesAsManyCalls();
+    enteredAnew();
     Check.end();
   }
 
@@ -220,5 +221,50 @@ public final class ReadmeTest {
     int shortest = callsToEnter("da:1760", "ba:1700");
     Check.holds("some 310: " + longest, readme.contains("some 310") && longest / 10 == 31);
     Check.holds("some 145: " + shortest, readme.contains("some 145") && Math.abs(shortest - 145) < 5);
+  }
+
+  // ---- "enter only the ENTRIES that are left, in their order, with the AGES that they have now"
+
+  private static LifeLinks changed() {
+    LifeLinks x = Check.made("banna:1700;wana:1722.21;danna:1760.59", "banne:1701;danne:1761.60");
+    x.part(0, 1);
+    x.part(4, 1);
+    x.age(2, 60);
+    x.age(1, LifeLinks.NONE);
+    x.bound(1, 2);
+    x.bound(2, 10);
+    Check.due("strike(0)", x.strike(0), 4);
+    return x;
+  }
+
+  private static String text(LifeLinks x, int entry) {
+    StringBuilder text = new StringBuilder();
+    text.append("bwd".charAt(x.entry(entry, 0)));
+    for (int place = 0; place < x.entry(entry, 3); place++) {
+      text.append((char) x.sign(entry, place));
+    }
+    text.append(':').append(x.entry(entry, 1));
+    int age = x.entry(entry, 2);
+    return (age == LifeLinks.NONE ? text : text.append('.').append(age)).toString();
+  }
+
+  private static void enteredAnew() {
+    LifeLinks old = changed();
+    LifeLinks anew = new LifeLinks();
+    for (int entry = 0; entry < old.count(0); entry++) {
+      enter(anew, text(old, entry));
+    }
+    anew.part(0, 3);
+    anew.bound(1, 2);
+    anew.bound(2, 10);
+    List<String> wants = Told.lines(changed());
+    List<String> told = Told.lines(anew);
+    Check.holds("all but count() is told as before",
+        told.subList(0, told.size() - 1).equals(wants.subList(0, wants.size() - 1)));
+    for (int what = 0; what <= 7; what++) {
+      boolean same = what != 5 && what != 6;
+      Check.holds("count(" + what + ")", same == (anew.count(what) == old.count(what)));
+    }
+    Check.holds("digest()", anew.digest() != old.digest());
   }
 }
