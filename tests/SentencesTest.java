@@ -32,21 +32,27 @@ public final class SentencesTest {
     SentencesTest test = new SentencesTest();
     test.readComments();
     test.eachTestIsCalled();
-    String document = read(DOCUMENT);
+    if (Files.exists(DOCUMENT)) {
+      test.eachWordIsQuoted(read(DOCUMENT));
+    } else {
+      System.out.println("there is no " + DOCUMENT + " to hold the tests against");
+    }
+    Check.end();
+  }
+
+  private void eachWordIsQuoted(String document) {
     Check.holds("the document's last heading", document.contains(NOT_PROMISED));
-    document = document.substring(0, document.indexOf(NOT_PROMISED));
     int promises = 0;
-    for (String section : document.split("(?=\n## Promise )")) {
+    for (String section : document.split(NOT_PROMISED)[0].split("(?=\n## Promise )")) {
       Matcher head = Pattern.compile("(?s)\n## Promise (\\d+): [^\n]+\n(.*)").matcher(section);
       if (head.matches()) {
         promises++;
-        test.isQuoted("promise" + head.group(1), head.group(2));
+        isQuoted("promise" + head.group(1), head.group(2));
       } else {
-        test.isQuoted("", section);
+        isQuoted("", section);
       }
     }
     Check.due("promises", promises, 22);
-    Check.end();
   }
 
   private static String read(Path path) throws Exception {
